@@ -400,6 +400,7 @@ public final class PromisesTest {
         due("now()", x.now(), 60);
         dueEras(x, 3, 15, ticks);
         dueEras(x, 3, 14, 0);
+        duePeriods(x, 60, 3, 15, 16);
     }
 
     private static void noEras() {
@@ -509,6 +510,23 @@ public final class PromisesTest {
         }
     }
 
+    private static void noAgreement() {
+        promise = "14 agree, keys that are not";
+        BitemporalTable x = new BitemporalTable();
+        for (int k = 0; k < 4; k++) {
+            x.say(k, 0, 16, 0);
+        }
+        x.tick();
+        x.tick();
+        for (int t = 0; t <= 2; t++) {
+            due("agree(t, 0, 3)", x.agree(t, 0, 3), 0xFFFF);
+            for (int k : NO_KEYS) {
+                due("agree(" + t + ", " + k + ", 3)", x.agree(t, k, 3), 0);
+                due("agree(" + t + ", 0, " + k + ")", x.agree(t, 0, k), 0);
+            }
+        }
+    }
+
     private static void theRectangles() {
         promise = "15 rectangles";
         BitemporalTable x = new BitemporalTable();
@@ -604,6 +622,7 @@ public final class PromisesTest {
         theDifference();
         theCount();
         theAgreement();
+        noAgreement();
         theRectangles();
         neighboursOfRectangles();
         rectanglesToTheLastTick();
