@@ -23,7 +23,7 @@ public final class BoundariesTest {
     private static final int[] NO_VALUES = outside(9);
 
     private static int wrong = 0;
-    private static int sentences = 0;
+    private static int tests = 0;
     private static String sentence = "";
 
     /** Numbers that are not from 0 to the last one: the nearest, and far ones. */
@@ -41,7 +41,7 @@ public final class BoundariesTest {
     }
 
     private static void says(String where, String words) {
-        sentences++;
+        tests++;
         sentence = where + ", \"" + words + "\"";
     }
 
@@ -1132,7 +1132,7 @@ public final class BoundariesTest {
         changing();
         asking();
         orderAndLimits();
-        System.out.println(wrong == 0 ? sentences + " sentences hold" : wrong + " answers are not as due");
+        System.out.println(wrong == 0 ? tests + " tests of sentences hold" : wrong + " answers are not as due");
         if (wrong != 0) {
             System.exit(1);
         }
